@@ -21,6 +21,7 @@ public final class AlikeSteps {
     private static final int MOST_ARCS = 20;
     private static final int LETTERS = 4;
     private static final int MOST_CODES = 9999;
+    private static final int LONGEST_WORD = 6;
 
     private static final int PLACE = 1;
     private static final int GOAL = 2;
@@ -301,10 +302,10 @@ public final class AlikeSteps {
     }
 
     public int words(int state, int n) {
-        if (!net.hasState(state) || !within(n, 0, 6)) {
+        if (!net.hasState(state) || !within(n, 0, LONGEST_WORD)) {
             return BAD;
         }
-        return alike.steps(net).spelt(1 << state, n);
+        return alike.steps(net).wordsFrom(state, n);
     }
 
     public int walk(int state, int n, int seed) {
@@ -906,6 +907,19 @@ public final class AlikeSteps {
             return union(goes, letter, set);
         }
 
+        /** Those to which one comes by silent ones alone that stay in a set. */
+        int silentlyWithin(int state, int among) {
+            int set = 1 << state;
+            for (int step = 0; step < MOST_STATES; step++) {
+                int wider = set | goneFrom(0, set) & among;
+                if (wider == set) {
+                    break;
+                }
+                set = wider;
+            }
+            return set;
+        }
+
         /** The set of those that MOVE by a LETTER to any of a set. */
         int movingTo(int rule, int letter, int set) {
             int moving = 0;
@@ -917,19 +931,8 @@ public final class AlikeSteps {
             return moving;
         }
 
-        /** How many rows of so many LETTERS can be gone from a set: 6 at most, so no deeper. */
-        int spelt(int set, int left) {
-            if (left <= 0) {
-                return 1;
-            }
-            int rows = 0;
-            for (int letter = 1; letter < LETTERS; letter++) {
-                int reached = union(closed, letter, set);
-                if (reached != 0) {
-                    rows += spelt(reached, left - 1);
-                }
-            }
-            return rows;
+        int wordsFrom(int state, int n) {
+            return spelt(closed, 1 << state, n);
         }
 
         int endOfWalk(int state, int n, int seed) {
@@ -983,11 +986,7 @@ public final class AlikeSteps {
 
         private void closeSilent() {
             for (int state = 0; state < MOST_STATES; state++) {
-                int set = 1 << state;
-                for (int round = 0; round < MOST_STATES; round++) {
-                    set |= goneFrom(0, set);
-                }
-                closed[state] = set;
+                closed[state] = silentlyWithin(state, -1);
             }
         }
 
@@ -1000,9 +999,24 @@ public final class AlikeSteps {
             }
         }
 
+        /** How many rows of so many LETTERS can be gone from any of a set; a row by itself once. */
+        private static int spelt(int[] closed, int set, int left) {
+            if (set == 0 || left < 0 || left > LONGEST_WORD) {
+                return 0;
+            }
+            if (left == 0) {
+                return 1;
+            }
+            int rows = 0;
+            for (int letter = 1; letter < LETTERS; letter++) {
+                rows += spelt(closed, union(closed, letter, set), left - 1);
+            }
+            return rows;
+        }
+
         private static int union(int[] table, int letter, int set) {
             int all = 0;
-            for (int state = 0; state < MOST_STATES; state++) {
+            for (int state = 0; state < MOST_STATES && set >> state != 0; state++) {
                 if ((set >> state & 1) != 0) {
                     all |= table[letter * MOST_STATES + state];
                 }
@@ -1076,7 +1090,7 @@ public final class AlikeSteps {
         /** The BLOCKS, as bits, in which the STATES of a set are behind a ROUND. */
         int blocksOf(int round, int set) {
             int found = 0;
-            for (int state = 0; state < states; state++) {
+            for (int state = 0; state < states && set >> state != 0; state++) {
                 if ((set >> state & 1) != 0) {
                     found |= 1 << blockBehind(round, state);
                 }
@@ -1116,7 +1130,7 @@ public final class AlikeSteps {
 
         private long signsBy(Steps steps, int round, int state) {
             int own = blockBehind(round, state);
-            int near = rule == 2 ? stayingNear(steps, state, statesOf(round, own)) : 0;
+            int near = rule == 2 ? steps.silentlyWithin(state, statesOf(round, own)) : 0;
             long found = 0;
             for (int letter = 0; letter < LETTERS; letter++) {
                 int reached = rule == 2
@@ -1124,14 +1138,6 @@ public final class AlikeSteps {
                 found |= (long) blocksOf(round, reached) << 10 * letter;
             }
             return rule == 2 ? found & ~(1L << own) : found;
-        }
-
-        private int stayingNear(Steps steps, int state, int among) {
-            int set = 1 << state;
-            for (int step = 0; step < MOST_STATES; step++) {
-                set |= steps.goneFrom(0, set) & among;
-            }
-            return set;
         }
 
         private int statesOf(int round, int block) {
