@@ -666,8 +666,10 @@ public final class AlikeSteps {
         }
 
         int append(int letter) {
-            bytes[length] = letter;
-            length++;
+            if (!isFull()) {
+                bytes[length] = letter;
+                length++;
+            }
             return length;
         }
 

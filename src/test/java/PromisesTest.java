@@ -687,6 +687,12 @@ public final class PromisesTest {
         due(1L << 30, x.signs(2, 2));
         AlikeSteps y = read(times("p;", 10) + "a0,1;a1,2;a2,3;a3,4;a4,5;a5,6;a6,7;a7,8;a8,9;c8,9;");
         due(1L << 19 | 1L << 39, y.signs(0, 8));
+        // nine ROUNDS part any: SIGNS are by the BLOCKS behind the ninth
+        AlikeSteps z = read(times("p;", 10) + "a0,1;a1,2;a2,3;a3,4;a4,5;a5,6;a6,7;a7,8;a8,9;");
+        due(9, z.parts(0, 1));
+        due(1L << 11, z.signs(0, 0));
+        due(1L << 12, z.signs(0, 1));
+        due(1L << 19, z.signs(0, 8));
         due(BAD, x.signs(3, 0));
         due(BAD, x.signs(-1, 0));
         due(BAD, x.signs(0, 3));
