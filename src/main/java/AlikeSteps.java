@@ -913,7 +913,7 @@ public final class AlikeSteps {
         int silentlyWithin(int state, int among) {
             int set = 1 << state;
             for (int step = 0; step < MOST_STATES; step++) {
-                int wider = set | goneFrom(0, set) & among;
+                int wider = set | union(goes, 0, set) & among;
                 if (wider == set) {
                     break;
                 }

@@ -226,6 +226,10 @@ public final class AlikeEdgesTest extends Edges {
         due(NONE, formula(x, 0, 0, 1, 20, 30, 30, 30, 30, 30, 30, 30, 30, 30, 30));
         due(NONE, formula(x, 0, 0, 10));
         due(NONE, formula(x, 0, 0, 11, 30));
+        due(NONE, formula(x, 0, 0, 12, 30));
+        due(NONE, formula(x, 0, 0, 19, 30));
+        due(NONE, formula(x, 0, 0, 20, 12, 30));
+        due(NONE, formula(x, 0, 0, 1, 11, 12, 30));
         due(NONE, formula(x, 0, 0, 1, 11, 10));
         due(NONE, formula(x, 0, 0, 1, 10, 10));
     }
@@ -331,6 +335,11 @@ public final class AlikeEdgesTest extends Edges {
         for (int rule = 0; rule < 3; rule++) {
             due(silent[rule], x.small(rule, 0, 0));
             due(1, x.small(rule, 0, 1));
+        }
+        // the last block, too
+        AlikeSteps z = read("g;p;p;t1,1;t2,1;t2,0;t1,0;");
+        for (int rule = 0; rule < 3; rule++) {
+            due(rule == 0 ? 3 : 1, z.small(rule, 1, 0));
         }
         // by other letters one goes from a block to itself
         AlikeSteps y = read("p;t0,0;c0,0;");

@@ -99,6 +99,8 @@ public final class LanguageTest {
             }
             check(fields <= 20, c + " has many fields: " + fields);
             for (Method m : c.getDeclaredMethods()) {
+                check(!Modifier.isPrivate(m.getModifiers()) || !(" " + FACE).contains(" " + m.getName() + "("),
+                        m + " bears a public name");
                 check(m.getParameterCount() <= 7, m + " has many parameters");
                 check(!Set.of("equals", "hashCode", "toString").contains(m.getName()), m + " is not to be there");
             }

@@ -388,18 +388,25 @@ public final class SystemsEdgesTest extends Edges {
 
     @Says(in = "Terms", words = "of more the oldest is forgotten")
     static void theOldestIsForgotten() {
-        AlikeSteps x = read("p;p;");
-        x.become(1, 2);
-        x.become(0, 3);
-        for (int n = 0; n < 19; n++) {
-            x.lay(n % 4, 0, 1);
+        AlikeSteps x = read("p;p;p;a0,1;b2,1;c1,2;");
+        String[] was = new String[24];
+        // acts of all sorts, each unlike the one ahead of it
+        for (int n = 0; n < 24; n++) {
+            was[n] = system(x);
+            switch (n % 4) {
+                case 0: x.lay(n / 4 % 4, n % 3, 2); break;
+                case 1: x.become(n / 4 % 3, x.kind(n / 4 % 3) % 5 + 1); break;
+                case 2: x.turn(n / 4 % 3); break;
+                default: x.cut(n / 4 % 2); break;
+            }
         }
         due(20, x.count(4));
         for (int left = 19; left >= 0; left--) {
             due(left, x.undo());
+            same(was[left + 4], system(x));
         }
-        // 21 acts: the first stays done, the second is undone
-        same("p;g;", system(x));
+        due(STATE, x.undo());
+        same(was[4], system(x));
     }
 
     @Says(in = "Terms", words = "each can be undone, the latest first")
@@ -789,6 +796,17 @@ public final class SystemsEdgesTest extends Edges {
         due(511, x.moves(0, 9, 3));
         x.become(9, 3);
         due(0, x.moves(0, 9, 3));
+        x.undo();
+        due(511, x.moves(0, 9, 3));
+        // two acts of two sorts between two questions
+        x.cut(8);
+        x.become(0, 4);
+        due(255, x.moves(0, 9, 3));
+        x.become(0, 1);
+        x.undo();
+        x.undo();
+        x.undo();
+        due(511, x.moves(0, 9, 3));
     }
 
     @Says(in = "Promise 15", words = "BAD.")
