@@ -693,16 +693,24 @@ final class Model {
         if (!in(rule, 0, 1) || !state(p) || !state(q) || j < -1 || j > 9998) {
             return BAD;
         }
-        Parted parted = new Parted(world, rule);
-        if (parted.in(p, q) == NONE) {
+        List<Integer> codes = codes(rule, p, q);
+        if (codes.isEmpty()) {
             return NONE;
         }
-        List<Integer> codes = new ArrayList<>();
-        parted.tell(p, q, codes);
         if (j == -1) {
             return Math.min(codes.size(), 9999);
         }
         return j < codes.size() ? codes.get(j) : NONE;
+    }
+
+    /** What tells p from q, written out, but no more than 10001 codes of it; none: they are alike. */
+    List<Integer> codes(int rule, int p, int q) {
+        Parted parted = new Parted(world, rule);
+        List<Integer> codes = new ArrayList<>();
+        if (parted.in(p, q) != NONE) {
+            parted.tell(p, q, codes);
+        }
+        return codes;
     }
 
     /** Free to answer only while the formula is not too long to be written out. */
