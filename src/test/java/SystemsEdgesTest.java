@@ -115,6 +115,41 @@ public final class SystemsEdgesTest extends Edges {
         AlikeSteps x = read(TEN);
         due(1, x.kind(9));
         due(BAD, x.kind(10));
+        lastStateIsAsAnyOther();
+    }
+
+    /** 9 goes by a to 8, 8 by b to 9, and only 9 is marked: the blocks are 0 to 7, then 8, then 9. */
+    private static void lastStateIsAsAnyOther() {
+        AlikeSteps x = read("p;".repeat(9) + "g;a9,8;b8,9;");
+        due(1 << 9, x.count(3));
+        due(1 << 8, x.moves(0, 9, 1));
+        due(1 << 9, x.moves(1, 8, 2));
+        due(2, x.block(0, 9));
+        due(1, x.behind(0, 0, 9));
+        due(1L << 11, x.signs(0, 9));
+        due(1L << 22, x.signs(2, 8));
+        due(0, x.parted(1, 9, 8));
+        due(1 << 1, x.small(0, 2, 1));
+        due(2, x.arcs(0));
+        told(x, 0, 9, 8, 30);
+        told(x, 0, 8, 0, 2, 10);
+        due(0, x.depth(0, 9, 8));
+        due(1, formula(x, 0, 9, 1, 10));
+        due(0, formula(x, 0, 9, 2, 10));
+        due(1, formula(x, 1, 9, 1, 11, 2, 11, 30));
+        due(1, x.words(9, 6));
+        due(8, x.walk(9, 1, 1));
+        due(9, x.walk(9, 2, 1));
+        fill(x, 1, 0, 0, 0, 0, 0, 0, 0, 0, 0, 1, 2);
+        due(1 << 8 | 1 << 9, x.fits(0, 0, 1, 1));
+        due((1 << 10) - 1, x.fits(0, 1, 1, 2));
+        due(-23, x.ask(9, 0));
+        due(22, x.ask(9, 1));
+        due(9, x.as(9, 1));
+        due(3, x.lay(3, 9, 9));
+        due(9, x.turn(2));
+        due(2, x.become(9, 5));
+        due(5, x.kind(9));
     }
 
     @Says(in = "Terms", words = "LETTER: t silent, a, b, c: LETTERS 0 to 3")
@@ -145,6 +180,24 @@ public final class SystemsEdgesTest extends Edges {
         AlikeSteps x = read("p;" + "a0,0;".repeat(20));
         due(1, x.arc(19, 0));
         due(BAD, x.arc(20, 0));
+        lastArcIsAsAnyOther();
+    }
+
+    private static void lastArcIsAsAnyOther() {
+        AlikeSteps x = read("p;g;" + "a0,0;".repeat(19) + "b1,0;");
+        fill(x, 0, 0, 0, 1);
+        due(15, x.fits(0, 19, 0, 0));
+        due(BAD, x.fits(0, 20, 0, 0));
+        due(1, x.turn(19));
+        due(BAD, x.turn(20));
+        due(2, x.moves(0, 0, 2));
+        due(19, x.cut(19));
+        due(0, x.moves(0, 0, 2));
+        due(1, x.undo());
+        due(2, x.arc(19, 0));
+        due(0, x.undo());
+        due(1, x.arc(19, 1));
+        due(BAD, x.cut(20));
     }
 
     @Says(in = "Terms", words = "the same one may be there more than once")
