@@ -1,3 +1,11 @@
+import com.sun.source.tree.ClassTree;
+import com.sun.source.tree.CompilationUnitTree;
+import com.sun.source.tree.MethodInvocationTree;
+import com.sun.source.tree.MethodTree;
+import com.sun.source.tree.NewClassTree;
+import com.sun.source.util.JavacTask;
+import com.sun.source.util.TreePathScanner;
+import com.sun.source.util.Trees;
 import java.lang.reflect.Constructor;
 import java.lang.reflect.Field;
 import java.lang.reflect.Method;
@@ -5,11 +13,18 @@ import java.lang.reflect.Modifier;
 import java.nio.file.Files;
 import java.nio.file.Path;
 import java.util.ArrayList;
+import java.util.Collections;
+import java.util.LinkedHashSet;
 import java.util.List;
+import java.util.Map;
 import java.util.Set;
+import java.util.TreeMap;
 import java.util.TreeSet;
 import java.util.regex.Matcher;
 import java.util.regex.Pattern;
+import javax.lang.model.element.Element;
+import javax.tools.JavaCompiler;
+import javax.tools.ToolProvider;
 
 /** Those rules of LANGUAGE.md that can be seen from the text of the program, or from its classes. */
 public final class LanguageTest {
@@ -20,6 +35,11 @@ public final class LanguageTest {
             + "tells(int,int,int,int)int depth(int,int,int)int holds(int,int,int,int)int small(int,int,int)int "
             + "arcs(int)int words(int,int)int walk(int,int,int)int fits(int,int,int,int)int image(int)int "
             + "restore(int)int kind(int)int as(int,int)int ask(int,int)int trace(int)int count(int)int status()int";
+
+    private static final String SOURCE = "src/main/java/AlikeSteps.java";
+    private static final int DEEPEST = 8;
+    // These guard their own depth, which they carry as an argument.
+    private static final Set<String> RECURSIVE = Set.of("Asker.body(int,int)", "Steps.spelt(int[],int,int)");
 
     private static int wrong = 0;
 
@@ -33,9 +53,10 @@ public final class LanguageTest {
     public static void main(String[] args) throws Exception {
         face();
         nested();
-        String text = Files.readString(Path.of("src/main/java/AlikeSteps.java"));
+        String text = Files.readString(Path.of(SOURCE));
         words(text);
         methods(text);
+        calls();
         System.out.println("language: " + wrong + " not as due");
         if (wrong != 0) {
             System.exit(1);
@@ -146,5 +167,87 @@ public final class LanguageTest {
                 begun = -1;
             }
         }
+    }
+
+    /** Which of the program's own methods call which; constructors, and those of the library, too. */
+    private static Map<String, Set<String>> callGraph() throws Exception {
+        JavaCompiler compiler = ToolProvider.getSystemJavaCompiler();
+        JavacTask task = (JavacTask) compiler.getTask(null, null, null, List.of("-proc:none"), null,
+                compiler.getStandardFileManager(null, null, null).getJavaFileObjects(SOURCE));
+        Iterable<? extends CompilationUnitTree> units = task.parse();
+        task.analyze();
+        Trees trees = Trees.instance(task);
+        Map<String, Set<String>> graph = new TreeMap<>();
+        for (CompilationUnitTree unit : units) {
+            new TreePathScanner<Void, String>() {
+                @Override
+                public Void visitClass(ClassTree tree, String in) {
+                    // What fields begin with is made by the constructor.
+                    String name = tree.getSimpleName().toString();
+                    return super.visitClass(tree, name + "." + name);
+                }
+
+                @Override
+                public Void visitMethod(MethodTree tree, String in) {
+                    Element method = trees.getElement(getCurrentPath());
+                    graph.computeIfAbsent(nameOf(method), k -> new LinkedHashSet<>());
+                    return super.visitMethod(tree, nameOf(method));
+                }
+
+                @Override
+                public Void visitMethodInvocation(MethodInvocationTree tree, String in) {
+                    note(in);
+                    return super.visitMethodInvocation(tree, in);
+                }
+
+                @Override
+                public Void visitNewClass(NewClassTree tree, String in) {
+                    note(in);
+                    return super.visitNewClass(tree, in);
+                }
+
+                private void note(String in) {
+                    graph.computeIfAbsent(in, k -> new LinkedHashSet<>())
+                            .add(nameOf(trees.getElement(getCurrentPath())));
+                }
+            }.scan(unit, "");
+        }
+        return graph;
+    }
+
+    private static String nameOf(Element method) {
+        String owner = method.getEnclosingElement().getSimpleName().toString();
+        String name = method.toString();
+        // All constructors of a class, and what its fields begin with, as one.
+        return owner + "." + (name.startsWith(owner + "(") ? owner : name);
+    }
+
+    private static void calls() throws Exception {
+        Map<String, Set<String>> graph = callGraph();
+        check(graph.containsKey("AlikeSteps.status()"), "the calls were not found");
+        List<String> longest = new ArrayList<>();
+        for (String method : graph.keySet()) {
+            List<String> way = way(graph, method, new ArrayList<>());
+            longest = way.size() > longest.size() ? way : longest;
+        }
+        check(longest.size() <= DEEPEST, "calls go " + longest.size() + " deep: " + longest);
+    }
+
+    /** The longest way of calls from a method on; those that call themselves must be known. */
+    private static List<String> way(Map<String, Set<String>> graph, String method, List<String> open) {
+        List<String> longest = new ArrayList<>();
+        open.add(method);
+        for (String next : graph.getOrDefault(method, Collections.emptySet())) {
+            if (open.contains(next)) {
+                check(next.equals(method) && RECURSIVE.contains(next), method + " calls " + next + " again");
+                continue;
+            }
+            List<String> way = way(graph, next, open);
+            longest = way.size() > longest.size() ? way : longest;
+        }
+        open.remove(open.size() - 1);
+        longest = new ArrayList<>(longest);
+        longest.add(0, method);
+        return longest;
     }
 }
